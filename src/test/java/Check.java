@@ -1,0 +1,26 @@
+/** Counts the answers that are not the ones that are due. */
+final class Check {
+    private int wrong = 0;
+
+    void due(String call, long got, long want) {
+        if (got != want) {
+            wrong++;
+            System.out.println(call + " answered " + got + ", due is " + want);
+        }
+    }
+
+    void due(String call, boolean got, boolean want) {
+        due(call, got ? 1 : 0, want ? 1 : 0);
+    }
+
+    boolean hasWrong() {
+        return wrong > 0;
+    }
+
+    void end() {
+        if (wrong > 0) {
+            System.out.println(wrong + " answers were wrong");
+            System.exit(1);
+        }
+    }
+}
