@@ -20,6 +20,10 @@ public final class ImageTest {
         longWords();
         outOfRange();
         edgeOfImage();
+        firstItem();
+        strippedLater();
+        fullModules();
+        longestChain();
         check.end();
     }
 
@@ -97,6 +101,9 @@ public final class ImageTest {
             check.due("where(0, " + k + ")", yard.where(0, k), places[k]);
         }
         check.due("address(3)", yard.address(3), 4);
+        LinkYard empty = Op.program(Op.SPACE, 1, 5, Op.SECTION, 1, 5, Op.SPACE, 2, 5, Op.SECTION, 0, 5, Op.SPACE, 1, 5);
+        sizes("nothing but space", empty, 2, 4, 0, 0);
+        wordsAre("nothing but space", empty, 0, 0, 0, 0, 0, 0);
     }
 
     private static void aligns() {
@@ -108,6 +115,9 @@ public final class ImageTest {
                 int at = (origin + step - 1) / step * step;
                 check.due("ALIGN " + step + " at " + origin, yard.where(0, 2), at);
                 check.due("its word", yard.word(at), 6);
+                for (int k = origin; k < at; k++) {
+                    check.due("a word that it adds", yard.word(k), 0);
+                }
                 check.due("where the ALIGN is", yard.where(0, 1), origin);
             }
         }
@@ -286,6 +296,12 @@ public final class ImageTest {
         check.due("where(0, 2)", yard.where(0, 2), -1);
         check.due("where(0, 24)", yard.where(0, 24), -1);
         check.due("where(1, 0)", yard.where(1, 0), -1);
+        Op.put(yard, 1, Op.HALT, 0, 0);
+        yard.role(1, Op.TAKEN);
+        yard.link();
+        check.due("where(1, 0)", yard.where(1, 0), 1);
+        check.due("where(0, 24) is not where(1, 0)", yard.where(0, 24), -1);
+        check.due("where(1, -24) is not where(0, 0)", yard.where(1, -24), -1);
         check.due("where(6, 0)", yard.where(6, 0), -1);
         check.due("where(-1, 24)", yard.where(-1, 24), -1);
         check.due("size(4)", yard.size(4), -1);
@@ -300,5 +316,66 @@ public final class ImageTest {
         check.due("address(0)", yard.address(0), 256);
         check.due("where of it", yard.where(0, 17), 256);
         wordsAre("a label behind all", yard, 254, 0x0C110100, 256);
+    }
+
+    private static void firstItem() {
+        LinkYard yard = new LinkYard();
+        yard.role(0, Op.TAKEN);
+        Op.put(yard, 0, Op.JUMP, 0, 0, Op.SPACE, 16, 0, Op.LABEL, 0, Op.GLOBAL, Op.HALT, 0, 0);
+        sizes("a jump comes first", yard, 19, 19, 1, 1);
+        wordsAre("a jump comes first", yard, 0, 0x08010012, 18, 0);
+        yard.layout(2, false);
+        sizes("two further on", yard, 21, 21, 1, 1);
+        wordsAre("two further on", yard, 0, 0, 0, 0x08010012, 20);
+        LinkYard chain = new LinkYard();
+        chain.role(0, Op.TAKEN);
+        Op.put(chain, 0, Op.JUMP, 0, 1, Op.LABEL, 0, Op.GLOBAL, Op.SECTION, 1, 0, Op.LABEL, 1, Op.LOCAL, Op.HALT, 0, 0);
+        chain.layout(0, true);
+        sizes("the first item reaches", chain, 1, 2, 0, 0);
+    }
+
+    private static void strippedLater() {
+        LinkYard yard = new LinkYard();
+        Op.put(yard, 0, Op.WORD, 0, 3, Op.SECTION, 1, 0, Op.LABEL, 0, Op.GLOBAL, Op.HALT, 0, 0);
+        yard.role(0, Op.TAKEN);
+        sizes("all of it", yard, 1, 2, 0, 0);
+        yard.layout(0, true);
+        sizes("the data alone", yard, 0, 1, 0, 0);
+        check.due("where(0, 0)", yard.where(0, 0), -1);
+        check.due("where(0, 1)", yard.where(0, 1), 0);
+        wordsAre("the data alone", yard, 0, 0x0E000000, 0);
+    }
+
+    private static void fullModules() {
+        LinkYard yard = new LinkYard();
+        for (int module = 0; module < 6; module++) {
+            yard.role(module, Op.TAKEN);
+            Op.put(yard, module, Op.LABEL, module, Op.GLOBAL);
+            for (int k = 1; k < 24; k++) {
+                Op.put(yard, module, Op.ADDRESS, 5 - module, k);
+            }
+        }
+        sizes("six full modules", yard, 138, 138, 0, 0);
+        check.due("listed(5)", yard.listed(5), 5);
+        check.due("where(5, 23)", yard.where(5, 23), 137);
+        check.due("word(137)", yard.word(137), 23);
+        check.due("word(0)", yard.word(0), 5 * 23 + 1);
+    }
+
+    /** Unit by unit against the order of their numbers, from the last one to the first. */
+    private static void longestChain() {
+        LinkYard yard = new LinkYard();
+        for (int module = 0; module < 6; module++) {
+            yard.role(module, Op.TAKEN);
+            Op.put(yard, module, Op.LABEL, 10 - 2 * module + 1, Op.GLOBAL, Op.WORD, 0, module);
+            if (module > 0) {
+                Op.put(yard, module, Op.ADDRESS, 10 - 2 * module + 2, 0);
+            }
+            Op.put(yard, module, Op.SECTION, 1, 0, Op.LABEL, 10 - 2 * module, Op.GLOBAL, Op.ADDRESS, 10 - 2 * module + 1, 0);
+        }
+        yard.layout(0, true);
+        sizes("the longest chain", yard, 11, 17, 0, 0);
+        check.due("the entry", yard.address(0), 16);
+        check.due("the end of the chain", yard.address(11), 0);
     }
 }

@@ -7,6 +7,7 @@ public final class LinkTest {
         archiveChains();
         localsAskForNothing();
         faulty();
+        faultyAmongOthers();
         faultyFirstFound();
         duplicate();
         undefined();
@@ -15,6 +16,7 @@ public final class LinkTest {
         weakAndGlobal();
         earlierIsNoMore();
         snapshots();
+        nothingStale();
         check.end();
     }
 
@@ -95,6 +97,11 @@ public final class LinkTest {
             yard.clear(3);
             result("cleared", yard, LinkYard.OK, -1);
         }
+    }
+
+    private static void faultyAmongOthers() {
+        LinkYard yard = Op.program(Op.LABEL, 4, Op.LOCAL, Op.HALT, 0, 0, Op.LABEL, 6, Op.WEAK, Op.LABEL, 4, Op.LOCAL, Op.LABEL, 7, Op.LOCAL);
+        result("others between and behind", yard, LinkYard.FAULTY, 0);
     }
 
     private static void faultyFirstFound() {
@@ -278,5 +285,33 @@ public final class LinkTest {
         check.due("run()", yard.run(), LinkYard.DONE);
         check.due("state(11)", yard.state(11), 7);
         check.due("culprit()", yard.culprit(), -1);
+    }
+
+    /** What was there at an earlier link, and is no more, must not be seen by the next one. */
+    private static void nothingStale() {
+        LinkYard cleared = Op.program(Op.LABEL, 4, Op.LOCAL, Op.LABEL, 6, Op.WEAK, Op.LABEL, 7, Op.WEAK, Op.JUMP, 0, 9);
+        result("at first", cleared, LinkYard.UNDEFINED, 9);
+        cleared.clear(0);
+        Op.put(cleared, 0, Op.LABEL, 0, Op.GLOBAL);
+        result("the JUMP is no more", cleared, LinkYard.OK, -1);
+        Op.put(cleared, 0, Op.JUMP, 0, 4);
+        result("the local label is no more", cleared, LinkYard.UNDEFINED, 4);
+        cleared.clear(0);
+        Op.put(cleared, 0, Op.LABEL, 0, Op.GLOBAL, Op.JUMP, 0, 6);
+        result("the weak label is no more", cleared, LinkYard.UNDEFINED, 6);
+
+        LinkYard left = Op.program(Op.HALT, 0, 0);
+        Op.put(left, 1, Op.JUMP, 0, 9, Op.LABEL, 5, Op.WEAK);
+        left.role(1, Op.TAKEN);
+        result("a second module", left, LinkYard.UNDEFINED, 9);
+        left.role(1, Op.UNUSED);
+        result("it is not used any more", left, LinkYard.OK, -1);
+        check.due("nor its label", left.address(5), -1);
+
+        LinkYard weaks = Op.program(Op.JUMP, 0, 4);
+        Op.put(weaks, 1, Op.LABEL, 4, Op.WEAK, Op.LABEL, 5, Op.WEAK);
+        weaks.role(1, Op.ARCHIVE);
+        result("the first of two weak labels", weaks, LinkYard.OK, -1);
+        listIs("the first of two weak labels", weaks, 0, 1);
     }
 }

@@ -75,6 +75,11 @@ public final class RunTest {
         check.due("memory(255)", edges.memory(255), 255);
         check.due("memory(0)", edges.memory(0), 255);
         registers("edges", edges, 0, 255, 255);
+        check.due("OUTs", edges.state(OUTS), 0);
+        LinkYard same = ends("LOAD by its own register", LinkYard.DONE, 2, 3, Op.LI, 1, 3, Op.LOAD, 1, 1, Op.HALT, 0, 0, Op.WORD, 0, 90);
+        check.due("what it loaded", same.state(1), 90);
+        check.due("memory(3)", same.memory(3), 90);
+        check.due("memory(90)", same.memory(90), 0);
     }
 
     private static void jumps() {
@@ -195,6 +200,13 @@ public final class RunTest {
         }
         runs("short HALT at 255", lastWord(0x0E000000), LinkYard.DONE, 255, 1);
         runs("short LI at 255", lastWord(0x01000001), LinkYard.WILD, 256, 1);
+        LinkYard fits = new LinkYard();
+        fits.role(0, Op.TAKEN);
+        Op.space(fits, 0, 254);
+        Op.put(fits, 0, Op.LABEL, 0, Op.GLOBAL, Op.WORD, 0, 0x01310000, Op.WORD, 0, 99);
+        fits.link();
+        runs("long LI at 254", fits, LinkYard.WILD, 256, 1);
+        check.due("its value", fits.state(3), 99);
     }
 
     private static void wildAddress() {
@@ -251,11 +263,11 @@ public final class RunTest {
     }
 
     private static void beginsAnew() {
-        LinkYard yard = Op.program(Op.LI, 1, 3, Op.ADD, 2, 1, Op.OUT, 2, 0, Op.HALT, 0, 0);
+        LinkYard yard = Op.program(Op.LI, 1, 3, Op.ADD, 2, 1, Op.ADD, 0, 1, Op.OUT, 2, 0, Op.HALT, 0, 0);
         yard.link();
         yard.run();
-        runs("anew", yard, LinkYard.DONE, 3, 4);
-        registers("anew", yard, 0, 3, 3);
+        runs("anew", yard, LinkYard.DONE, 4, 5);
+        registers("anew", yard, 3, 3, 3);
         check.due("OUTs", yard.state(OUTS), 1);
         check.due("output 1", yard.state(FIRST + 1), 0);
         yard.clear(0);
