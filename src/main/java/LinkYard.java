@@ -289,7 +289,9 @@ public final class LinkYard {
             int i = module * ITEMS + k;
             if (ops[i] == OP_LABEL) {
                 int bit = 1 << firsts[i];
-                repeats[module] |= (seen & bit) != 0;
+                if ((seen & bit) != 0) {
+                    repeats[module] = true;
+                }
                 seen |= bit;
                 if (seconds[i] == LOCAL) {
                     localSets[module] |= bit;

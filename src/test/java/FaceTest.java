@@ -1,6 +1,7 @@
 import java.lang.reflect.Field;
 import java.lang.reflect.Method;
 import java.lang.reflect.Modifier;
+import java.util.Arrays;
 import java.util.Set;
 import java.util.TreeSet;
 
@@ -34,19 +35,29 @@ public final class FaceTest {
             }
         }
         check.due("fields that are not private", seen, 10);
+        int held = 0;
+        for (Field field : LinkYard.class.getDeclaredFields()) {
+            held += Modifier.isStatic(field.getModifiers()) ? 0 : 1;
+        }
+        check.due("some forty fields at most", held <= 40, true);
         check.due("constructors", LinkYard.class.getDeclaredConstructors().length, 1);
+        check.due("a public constructor", LinkYard.class.getConstructors().length, 1);
     }
 
     private static void methods() {
         Set<String> face = new TreeSet<>();
         for (Method method : LinkYard.class.getDeclaredMethods()) {
             if (!Modifier.isPrivate(method.getModifiers())) {
-                face.add(method.getName());
+                String modifiers = Modifier.toString(method.getModifiers());
+                face.add(modifiers + " " + method.getReturnType() + " " + method.getName() + Arrays.toString(method.getParameterTypes()));
             }
         }
-        Set<String> wanted = new TreeSet<>(Set.of("item", "clear", "role", "layout", "link", "culprit", "listed",
-            "address", "where", "word", "size", "run", "state", "memory"));
+        Set<String> wanted = new TreeSet<>(Set.of("public int item[int, int, int, int]", "public int clear[int]", "public boolean role[int, int]",
+            "public boolean layout[int, boolean]", "public int link[]", "public int culprit[]", "public int listed[int]", "public int address[int]",
+            "public int where[int, int]", "public int word[int]", "public int size[int]", "public int run[]", "public int state[int]",
+            "public int memory[int]"));
         check.due("the methods are " + face, face.equals(wanted), true);
+        check.due("the class is public and final", LinkYard.class.getModifiers(), Modifier.PUBLIC | Modifier.FINAL);
     }
 
     private static void newObject() {

@@ -1,14 +1,23 @@
-/** Long fixed sequences of calls; every answer is compared with the model's. */
+import java.util.ArrayList;
+import java.util.List;
+import java.util.function.ToIntFunction;
+
+/**
+ * Fixed sequences of calls; every answer is compared with the model's. What an object tells at the end
+ * is asked in parts, each of a new one to which the same calls were made, as each is used for 512 calls.
+ */
 public final class ModelTest {
-    private static final int SEQUENCES = 3000;
+    private static final int SEQUENCES = 12000, MOST_CHANGES = 200, MOST_CALLS = 512;
     private static final Check check = new Check();
     private static final int[] linkAnswers = new int[5];
     private static final int[] runAnswers = new int[9];
     private static int strippedAway = 0, manyRounds = 0, archived = 0;
     private static long seed;
 
+    private final Model model = new Model();
+    private final List<ToIntFunction<LinkYard>> changes = new ArrayList<>();
     private LinkYard yard = new LinkYard();
-    private Model model = new Model();
+    private int calls = 0;
     private final int symbols = 2 + next(next(2) == 0 ? 5 : 15);
     private final int entryModule = next(6);
     private final boolean wild = next(4) == 0;
@@ -44,33 +53,54 @@ public final class ModelTest {
         check.due("the archive was used", archived >= 50, true);
     }
 
-    private void same(String call, int got, int want) {
-        check.due(last + ": " + call, got, want);
+    /** A call that only asks. */
+    private void same(String call, ToIntFunction<LinkYard> asked, int want) {
+        calls++;
+        check.due(last + ": " + call, asked.applyAsInt(yard), want);
+        check.due(last + ": at most 512 calls", calls <= MOST_CALLS, true);
+    }
+
+    /** A call that changes something, and so is made again to the next object. */
+    private void made(String call, ToIntFunction<LinkYard> change, int want) {
+        same(call, change, want);
+        changes.add(change);
+    }
+
+    private void beginAnother() {
+        yard = new LinkYard();
+        calls = changes.size();
+        for (ToIntFunction<LinkYard> change : changes) {
+            change.applyAsInt(yard);
+        }
     }
 
     private void sequence(int number) {
+        last = "sequence " + number;
         for (int module = 0; module < 6; module++) {
             setRole(module, module == entryModule ? Op.TAKEN : next(6) == 0 ? Op.UNUSED : 1 + next(2));
             owned(module);
             fill(module, next(spacious ? 20 : 10));
         }
-        for (int round = 0; round < 6; round++) {
-            last = "sequence " + number + " round " + round;
+        int rounds = 1 + next(4);
+        for (int round = 0; round < rounds && changes.size() < MOST_CHANGES; round++) {
             change();
             linkBoth();
-            if (next(3) == 0) {
-                change();
-                compareLink();
+            if (next(3) > 0) {
+                runBoth();
             }
-            runBoth();
         }
+        if (next(3) == 0) {
+            change();
+        }
+        compareLink();
+        compareRun();
     }
 
     private void change() {
         int module = next(7) - (next(20) == 0 ? 1 : 0);
         switch (next(6)) {
             case 0 -> {
-                same("clear(" + module + ")", yard.clear(module), model.clear(module));
+                made("clear(" + module + ")", one -> one.clear(module), model.clear(module));
                 if (module >= 0 && module <= 5) {
                     labelled[module] = 0;
                     owned(module);
@@ -83,13 +113,13 @@ public final class ModelTest {
             default -> {
                 int origin = next(4) == 0 ? next(104) - 2 : next(40);
                 boolean strip = next(2) == 0;
-                same("layout(" + origin + ")", yard.layout(origin, strip) ? 1 : 0, model.layout(origin, strip) ? 1 : 0);
+                made("layout(" + origin + ")", one -> one.layout(origin, strip) ? 1 : 0, model.layout(origin, strip) ? 1 : 0);
             }
         }
     }
 
     private void setRole(int module, int how) {
-        same("role(" + module + ", " + how + ")", yard.role(module, how) ? 1 : 0, model.role(module, how) ? 1 : 0);
+        made("role(" + module + ", " + how + ")", one -> one.role(module, how) ? 1 : 0, model.role(module, how) ? 1 : 0);
     }
 
     private void fill(int module, int items) {
@@ -154,15 +184,13 @@ public final class ModelTest {
     }
 
     private void put(int module, int op, int a, int b) {
-        same("item(" + module + ", " + op + ", " + a + ", " + b + ")", yard.item(module, op, a, b), model.item(module, op, a, b));
+        made("item(" + module + ", " + op + ", " + a + ", " + b + ")", one -> one.item(module, op, a, b), model.item(module, op, a, b));
     }
 
     private void linkBoth() {
         int answer = model.link();
         linkAnswers[answer]++;
-        same("link()", yard.link(), answer);
-        compareLink();
-        compareRun();
+        made("link()", LinkYard::link, answer);
         if (answer == LinkYard.OK) {
             count();
         }
@@ -179,35 +207,43 @@ public final class ModelTest {
         if (answer >= 0) {
             runAnswers[answer]++;
         }
-        same("run()", yard.run(), answer);
-        compareRun();
+        made("run()", LinkYard::run, answer);
     }
 
     private void compareLink() {
-        same("culprit()", yard.culprit(), model.culprit());
+        beginAnother();
+        same("culprit()", LinkYard::culprit, model.culprit());
         for (int k = -1; k < 8; k++) {
-            same("listed(" + k + ")", yard.listed(k), model.listed(k));
-            same("size(" + k + ")", yard.size(k), model.size(k));
+            int number = k;
+            same("listed(" + k + ")", one -> one.listed(number), model.listed(k));
+            same("size(" + k + ")", one -> one.size(number), model.size(k));
         }
-        for (int symbol = -1; symbol < 17; symbol++) {
-            same("address(" + symbol + ")", yard.address(symbol), model.address(symbol));
+        for (int k = -1; k < 17; k++) {
+            int symbol = k;
+            same("address(" + k + ")", one -> one.address(symbol), model.address(k));
         }
-        for (int module = -1; module < 7; module++) {
-            for (int k = -1; k < 26; k++) {
-                same("where(" + module + ", " + k + ")", yard.where(module, k), model.where(module, k));
-            }
+        for (int at = 0; at < 6 * 25; at++) {
+            int module = at / 25;
+            int k = at % 25;
+            same("where(" + module + ", " + k + ")", one -> one.where(module, k), model.where(module, k));
         }
-        for (int at = -1; at < 258; at++) {
-            same("word(" + at + ")", yard.word(at), model.word(at));
+        beginAnother();
+        for (int at = 0; at < 256; at++) {
+            int address = at;
+            same("word(" + at + ")", one -> one.word(address), model.word(at));
         }
     }
 
     private void compareRun() {
-        for (int what = -1; what < 60; what++) {
-            same("state(" + what + ")", yard.state(what), model.state(what));
+        beginAnother();
+        for (int k = -1; k < 60; k++) {
+            int what = k;
+            same("state(" + k + ")", one -> one.state(what), model.state(k));
         }
-        for (int at = -1; at < 258; at++) {
-            same("memory(" + at + ")", yard.memory(at), model.memory(at));
+        beginAnother();
+        for (int at = 0; at < 256; at++) {
+            int address = at;
+            same("memory(" + at + ")", one -> one.memory(address), model.memory(at));
         }
     }
 }

@@ -27,6 +27,22 @@ final class Op {
         return yard;
     }
 
+    /** A yard whose entry lies behind so many words that are 0; it is linked. */
+    static LinkYard linkedAt(int words, int... numbers) {
+        LinkYard yard = new LinkYard();
+        space(yard, 0, words);
+        put(yard, 0, LABEL, 0, GLOBAL);
+        put(yard, 0, numbers);
+        yard.role(0, TAKEN);
+        yard.link();
+        return yard;
+    }
+
+    /** The word that is taken apart into these. */
+    static int code(int op, int a, boolean isLong, int n) {
+        return (op << 24) + (a << 20) + (isLong ? 1 << 16 : 0) + (n & 0xFFFF);
+    }
+
     /** Appends spaces until they have so many words together. */
     static void space(LinkYard yard, int module, int words) {
         for (int left = words; left > 0; left -= 16) {
