@@ -23,6 +23,8 @@ public final class LanguageTest {
         String code = text.replaceAll("(?s)/\\*.*?\\*/", " ").replaceAll("//[^\n]*", " ");
         words(code);
         arrays(code);
+        arraysStay(code);
+        loops(code);
         callsInArguments(code);
         depth(bodies(code));
         check.end();
@@ -34,6 +36,7 @@ public final class LanguageTest {
             check.due("the word " + word.group() + " is left out", LEFT_OUT.contains(word.group()), false);
         }
         check.due("a lambda or method reference", code.contains("->") || code.contains("::"), false);
+        check.due("a text or a character", code.contains("\"") || code.contains("'"), false);
         check.due("classes", code.split("\\bclass\\b", -1).length - 1, 1);
     }
 
@@ -46,6 +49,34 @@ public final class LanguageTest {
             if (line.contains(" static ") && line.contains("=") && line.endsWith(";")) {
                 check.due("a static field is a constant: " + line.trim(), line.contains("static final int"), true);
             }
+        }
+    }
+
+    /** An array is named only where it is made, and to look at one of its places. */
+    private static void arraysStay(String code) {
+        Matcher field = Pattern.compile("\\[\\] (\\w+) = new ").matcher(code);
+        int arrays = 0;
+        while (field.find()) {
+            arrays++;
+            String rest = code.substring(0, field.start(1)) + code.substring(field.end(1));
+            boolean alone = Pattern.compile("\\b" + field.group(1) + "\\b(?!\\[)").matcher(rest).find();
+            check.due("the array " + field.group(1) + " is named without a place", alone, false);
+        }
+        check.due("all types of arrays are those of fields", code.split("\\[\\]", -1).length - 1, arrays);
+    }
+
+    /** A loop counts up to a bound that stands in its head, and its counter changes there alone. */
+    private static void loops(String code) {
+        Matcher loop = Pattern.compile("\\b(for|while|do)\\b([^\n]*)").matcher(code);
+        while (loop.find()) {
+            boolean counts = loop.group(2).matches(" \\(int (\\w+) = \\w+; \\1 <=? [\\w\\[\\]]+; \\1\\+\\+\\) \\{");
+            check.due("a counter against a bound: " + loop.group(), counts, true);
+        }
+        Matcher body = Pattern.compile("(?m)^( +)for \\(int (\\w+) = .*\n((?s:.*?))^\\1\\}").matcher(code);
+        for (int from = 0; body.find(from); from = body.start(3)) {
+            String counter = body.group(2);
+            boolean changed = Pattern.compile("\\b" + counter + " ?([-+*/|&^]?=[^=]|\\+\\+|--)").matcher(body.group(3)).find();
+            check.due("the counter " + counter + " changes inside its loop", changed, false);
         }
     }
 
